@@ -214,7 +214,7 @@ public final class FilterReader {
         }
 
         static boolean isOfName(int b) {
-            return startsName(b) || isDigit(b);
+            return b >= 'a' && b <= 'z' || b >= 'A' && b <= 'Z' || b == '_' || b >= '0' && b <= '9';
         }
 
         static boolean isEscaped(int b) {
@@ -278,7 +278,7 @@ public final class FilterReader {
         void begin(byte[] program, int bytes) {
             tape = program;
             length = bytes;
-            nextFrom(0);
+            goTo(0);
         }
 
         Sign sign() {
@@ -306,12 +306,14 @@ public final class FilterReader {
             return sign == Sign.VARIABLE || sign == Sign.FIELD ? start + 1 : start;
         }
 
-        void next() {
-            nextFrom(behind);
+        /** Reads the sign that comes from there on. */
+        void goTo(int from) {
+            behind = from;
+            next();
         }
 
-        void nextFrom(int from) {
-            start = skipBlanks(from);
+        void next() {
+            start = skipBlanks(behind);
             int first = byteAt(start);
             if (first < 0) {
                 behind = start;
@@ -621,7 +623,6 @@ public final class FilterReader {
         }
 
         private void needKnown(int sort) {
-            need(Sign.VARIABLE);
             if (!names.has(sort, signs.nameStart(), signs.behind())) {
                 broken(signs.start());
             }
@@ -679,7 +680,13 @@ public final class FilterReader {
             learn(Kind.DEFINED_CALL);
             signs.next();
             if (takes(Sign.ROUND_OPEN)) {
-                names.setParameters(self, parameters());
+                int parameters = 0;
+                do {
+                    learnParameter(parameters);
+                    signs.next();
+                    parameters++;
+                } while (parameters <= MOST_NAMES && takes(Sign.SEMICOLON));
+                names.setParameters(self, parameters);
                 take(Sign.ROUND_CLOSE);
             }
             take(Sign.COLON);
@@ -688,25 +695,16 @@ public final class FilterReader {
             names.forgetFrom(self + 1);
         }
 
-        private int parameters() {
-            for (int n = 1; n <= MOST_NAMES; n++) {
-                parameter();
-                if (!takes(Sign.SEMICOLON)) {
-                    return n;
-                }
+        private void learnParameter(int before) {
+            if (before >= MOST_NAMES) {
+                broken(signs.start());
             }
-            broken(signs.start());
-            return MOST_NAMES;
-        }
-
-        private void parameter() {
             if (signs.is(Sign.VARIABLE)) {
                 learn(Names.VARIABLE);
             } else {
                 need(Sign.NAME);
             }
             learn(Kind.PARAMETER_CALL);
-            signs.next();
         }
 
         private void label() {
@@ -880,13 +878,13 @@ public final class FilterReader {
                 }
                 count(Kind.PLAIN_STRING);
                 if (!signs.opensProgram(stop)) {
-                    signs.nextFrom(stop + 1);
+                    signs.goTo(stop + 1);
                     return;
                 }
                 if (n == 0) {
                     count(Kind.STRING_WITH_PROGRAMS);
                 }
-                signs.nextFrom(stop + 2);
+                signs.goTo(stop + 2);
                 program(open);
                 need(Sign.ROUND_CLOSE);
                 from = signs.behind();
@@ -899,7 +897,7 @@ public final class FilterReader {
                 broken(signs.start());
             }
             count(Kind.PLAIN_STRING);
-            signs.nextFrom(stop + 1);
+            signs.goTo(stop + 1);
         }
 
         private void group(int open) {
@@ -937,6 +935,7 @@ public final class FilterReader {
 
         private void leave() {
             takeAs(Kind.BREAK);
+            need(Sign.VARIABLE);
             needKnown(Names.LABEL);
             signs.next();
         }
