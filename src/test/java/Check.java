@@ -2,6 +2,7 @@
 final class Check {
     static final int KINDS = 34;
     static final int NO_KIND = 29;
+    private static final int FED = 20;
     private static int wrong = 0;
 
     private Check() {
@@ -18,18 +19,27 @@ final class Check {
         equal(what, holds ? 1 : 0, 1);
     }
 
-    /** Brings the characters of the text to the tape, as bytes, and nothing else. */
+    /**
+     * Brings the characters of the text to the tape, as bytes, and nothing else. What is no whole
+     * feed comes first: the tape can then be filled to its last byte.
+     */
     static void tape(FilterReader reader, String text) {
-        int before = reader.taped();
-        for (int from = 0; from < text.length(); from += 20) {
-            int[] fed = new int[5];
-            for (int i = 0; i < 20; i++) {
-                int b = from + i < text.length() ? text.charAt(from + i) & 255 : 'x';
-                fed[i / 4] |= b << (24 - 8 * (i % 4));
-            }
-            reader.feed(fed[0], fed[1], fed[2], fed[3], fed[4]);
+        int odd = text.length() % FED;
+        if (odd > 0) {
+            feed(reader, text.substring(0, odd) + "x".repeat(FED - odd));
+            reader.end(reader.taped() - FED + odd);
         }
-        reader.end(before + text.length());
+        for (int from = odd; from < text.length(); from += FED) {
+            feed(reader, text.substring(from, from + FED));
+        }
+    }
+
+    private static void feed(FilterReader reader, String twentyBytes) {
+        int[] fed = new int[5];
+        for (int i = 0; i < FED; i++) {
+            fed[i / 4] |= (twentyBytes.charAt(i) & 255) << (24 - 8 * (i % 4));
+        }
+        reader.feed(fed[0], fed[1], fed[2], fed[3], fed[4]);
     }
 
     /** Whether reading the text throws. */

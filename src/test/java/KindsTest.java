@@ -11,6 +11,7 @@ public final class KindsTest {
         functions();
         scopes();
         blanks();
+        sidesOfKinds();
         Check.finish();
     }
 
@@ -55,6 +56,11 @@ public final class KindsTest {
         Check.has("\"\\(1)\"", "6:1 7:2 8:1");
         Check.has("\"a\\(1)b\\( 2 # )\"\n )c\"", "6:2 7:3 8:1");
         Check.has("\"\\(\"\\(\"x\")\")\"", "7:5 8:2");
+        for (int programs = 1; programs <= 20; programs++) {
+            String due = "6:" + programs + " 7:" + (programs + 1) + " 8:1";
+            Check.has("\"" + "\\(1)".repeat(programs) + "\"", due);
+            Check.has("\"a" + "\\(1)a".repeat(programs) + "\"", due);
+        }
         Check.has(".\"a\\(1)\"", "0:1 2:1 6:1 7:2 8:1");
         Check.has("..|.a.\"\\(.)\"", "0:2 1:1 2:2 7:3 8:1 16:1");
     }
@@ -148,5 +154,38 @@ public final class KindsTest {
         Check.has(" \t\r\n1 # 2 ( \n#\n + # \"\n 2\t#", "6:2 21:1");
         Check.has("#\200\n1", "6:1");
         Check.has("1#", "6:1");
+    }
+
+    /** What the list of the KINDS takes in and leaves out with "also", "none", "but not", "alone". */
+    private static void sidesOfKinds() {
+        // 0: "also that of a FIELD or of . STRING that begins a TERM, none of what stands behind one".
+        Check.has(".a", "0:1 2:1 7:1");
+        Check.has("1.a", "2:1 6:1 7:1");
+        Check.has(".\"a\"", "0:1 2:1 7:1");
+        Check.has("1.\"a\"", "2:1 6:1 7:1");
+        Check.has("1.[2].[].[3:]", "2:1 3:1 4:1 6:3");
+        Check.has(".a,.b|.c", "0:3 2:3 7:3 16:1 17:1");
+        // 9, 10: as a TERM, neither behind one nor in a PATTERN.
+        Check.has("[1][2]", "2:1 6:2 9:1");
+        Check.has("1 as [{$a}]|[{}]", "6:1 7:1 9:1 10:1 26:1 31:1 32:1 33:1");
+        // 11: "$NAME as a TERM, or an entry alone (without :)".
+        Check.has("1 as $x|$x", "6:1 11:1 26:1 30:1");
+        Check.has("1 as $x|{$x}", "6:1 7:1 10:1 11:1 26:1 30:1 33:1");
+        Check.has("1 as $x|{$x:2}", "6:2 7:1 10:1 26:1 30:1 33:1");
+        // 16: "also in V; but not that of as and of label"; the |= is no |.
+        Check.has("{a:1|2}|3", "6:3 7:1 10:1 16:2 33:1");
+        Check.has("1 as $x|2", "6:2 26:1 30:1");
+        Check.has("label $x|2", "6:1 27:1");
+        Check.has(".|=2", "0:1 6:1 19:1");
+        // 17: no , of { }, of a PATTERN.
+        Check.has("{a,b},1", "6:1 7:2 10:1 17:1 33:2");
+        Check.has("1 as [$a,$b]|1,2", "6:3 17:1 26:1 30:2 31:1");
+        // 21 and 22: - between two and - before one.
+        Check.has("1-2", "6:2 21:1");
+        Check.has("-1-2", "6:2 21:1 22:1");
+        // 26: "as", but reduce and foreach have their own.
+        Check.has("reduce 1 as $x(2;3)", "6:3 23:1 30:1");
+        // 30: "$NAME that is no entry".
+        Check.has("1 as {$a,b:$b,$c:$d}|1", "6:2 7:3 26:1 30:2 32:1 33:3");
     }
 }

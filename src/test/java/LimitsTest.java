@@ -32,6 +32,13 @@ public final class LimitsTest {
         Check.isTrue(head + " keeps the calls few", callsOfBroken(reader) <= MOST_CALLS);
     }
 
+    /** Each head opens two: with the outermost P, 29 of them and one more fit into the 60. */
+    private static void most29(String head) {
+        Check.reads(times(29, head) + "1//1");
+        Check.breaksAt(times(29, head) + "1//1//1", head.length() * 29 + 6);
+        Check.breaksAt(times(30, head) + "1", head.length() * 30);
+    }
+
     private static int callsOfBroken(FilterReader reader) {
         try {
             reader.read();
@@ -49,15 +56,23 @@ public final class LimitsTest {
         most59("1.\"\\(", "1", ")\"");
         most59(".[", "1", "]");
         most59(".[:", "1", "]");
+        most59(".[1:", 2, "1", "]");
+        most59("1.[", "1", "]");
+        most59("( ", "1", ")");
+        most59("(#\n", "1", ")");
         most59("has(", "1", ")");
         most59("range(1;", 6, "1", ")");
         most59("if ", "1", " then 2 end");
+        most59("if 1 then ", 3, "1", " end");
         most59("if 1 then 2 else ", 3, "1", " end");
         most59("def f:", "1", ";1");
         most59("def f:1;", 6, "1", "");
         most59("label $x|", "1", "");
         most59(". as $x|", "1", "");
         most59("reduce . as $x(", "1", ";1)");
+        most59("reduce . as $x(1;", 15, "1", ")");
+        most59("foreach . as $x(", "1", ";1)");
+        most59("foreach . as $x(1;", 16, "1", ")");
         most59("foreach . as $x(1;2;", 16, "1", ")");
         most59("try (", "1", ")");
         most59("try 1 catch \"\\(", "1", ")\"");
@@ -71,13 +86,23 @@ public final class LimitsTest {
     private static void chains() {
         most59("1|", "1", "");
         most59("1//", "1", "");
-        most59(".=", "1", "");
-        most59(".//=", "1", "");
+        for (String operator : "= |= += -= *= /= %= //=".split(" ")) {
+            most59("." + operator, "1", "");
+            most29("1//." + operator + " ");
+            most29("." + operator + "1//");
+        }
         most59("1+. as $x|", "1", "");
         // A , and a | close the right sides before them; + and its like open none.
         Check.reads(times(59, "1//") + "1," + times(59, "1//") + "1");
         Check.reads(times(58, "1//") + "1|" + times(58, "1=") + "1");
         Check.breaksAt(times(58, "1//") + "1|" + times(59, "1=") + "1", 58 * 3 + 2 + 59 * 2);
+        for (String operator : "and or + - * / % ,".split(" ")) {
+            Check.reads(times(200, "1 " + operator + " ") + "1");
+            Check.reads(times(59, "1//") + times(200, "1 " + operator + " ") + "1");
+            Check.reads(times(59, "(") + times(200, "1 " + operator + " ") + "1" + times(59, ")"));
+        }
+        Check.reads(times(200, "1==2 and ") + "1");
+        Check.reads("{a:" + times(200, "1|") + "1}");
         Check.breaksAt(times(59, "1//") + "(1)", 59 * 3 + 1);
         Check.breaksAt(times(59, "1//") + "{}", 59 * 3);
         Check.reads(times(59, "1//") + "[]");
@@ -113,6 +138,16 @@ public final class LimitsTest {
     }
 
     private static void patternBrackets() {
+        for (String fold : new String[] {"reduce . as ", "foreach . as "}) {
+            Check.reads(fold + times(59, "[") + "$x" + times(59, "]") + "(1;2)");
+            Check.breaksAt(fold + times(60, "[") + "$x" + times(60, "]") + "(1;2)", fold.length() + 59);
+            Check.reads(fold + times(58, "[") + "{$x}" + times(58, "]") + "(1;2)");
+            Check.breaksAt(fold + times(59, "[") + "{$x}" + times(59, "]") + "(1;2)", fold.length() + 59);
+        }
+        Check.reads(times(58, "(") + ". as [$x]|1" + times(58, ")"));
+        Check.breaksAt(times(58, "(") + ". as [[$x]]|1" + times(58, ")"), 58 + 6);
+        Check.breaksAt(times(59, "(") + ". as {$x}|1" + times(59, ")"), 59 + 5);
+        Check.breaksAt(times(59, "(") + ". as $x|1" + times(59, ")"), 59 + 8);
         Check.reads(". as " + times(59, "[") + "$x" + times(59, "]") + "|1");
         Check.breaksAt(". as " + times(60, "[") + "$x" + times(60, "]") + "|1", 5 + 59);
         Check.reads(". as " + times(59, "{a:") + "$x" + times(59, "}") + "|1");
