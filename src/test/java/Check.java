@@ -78,11 +78,25 @@ final class Check {
         }
     }
 
+    /** The program is whole, and read answers how many there are of all kinds. */
     static void reads(String program) {
         FilterReader reader = new FilterReader();
-        if (breaks(reader, program)) {
+        tape(reader, program);
+        try {
+            equal(program + " read()", reader.read(), ofAllKinds(reader));
+        } catch (UnsupportedOperationException e) {
             equal(program + " is broken at " + reader.place(), 1, 0);
         }
+        equal(program + " place()", reader.place(), -1);
+        equal(program + " taped()", reader.taped(), 0);
+    }
+
+    private static int ofAllKinds(FilterReader reader) {
+        int all = 0;
+        for (int kind = 0; kind < KINDS; kind++) {
+            all += kind == NO_KIND ? 0 : reader.many(kind);
+        }
+        return all;
     }
 
     /** The program is broken at the place of the ^ in it; the ^ is none of its bytes. */
@@ -95,6 +109,7 @@ final class Check {
         FilterReader reader = new FilterReader();
         isTrue(program + " throws", breaks(reader, program));
         equal(program + " place()", reader.place(), place);
+        equal(program + " taped()", reader.taped(), 0);
         for (int kind = 0; kind < KINDS; kind++) {
             if (kind != NO_KIND) {
                 equal(program + " many(" + kind + ")", reader.many(kind), 0);

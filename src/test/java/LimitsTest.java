@@ -4,6 +4,7 @@ public final class LimitsTest {
     private static final int MOST_CALLS = 295;
 
     public static void main(String[] args) {
+        answersAtTheLimit();
         nestedPrograms();
         chains();
         elifs();
@@ -46,6 +47,25 @@ public final class LimitsTest {
         } catch (UnsupportedOperationException e) {
             return e.getStackTrace().length;
         }
+    }
+
+    /** "At most 60 P, elif, right sides of // and of = and its like, { and [ of PATTERNS are open". */
+    private static void answersAtTheLimit() {
+        Check.has(times(59, "(") + "1" + times(59, ")"), "6:1");
+        Check.has(times(60, "[") + times(60, "]"), "9:60");
+        Check.has(times(59, "\"\\(") + "1" + times(59, ")\""), "6:1 7:118 8:59");
+        Check.has(times(59, "1|") + "1", "6:60 16:59");
+        Check.has(times(59, "1//") + "1", "6:60 18:59");
+        Check.has(times(59, "1=") + "1", "6:60 19:59");
+        Check.has(times(59, "1 as $x|") + "$x", "6:59 11:1 26:59 30:59");
+        Check.has(times(59, "label $x|") + "break $x", "15:1 27:59");
+        Check.has(times(59, "def f:1;") + "f", "6:59 12:1 28:59");
+        Check.has(times(59, "def f:") + "f" + times(59, ";1"), "6:59 12:1 28:59");
+        Check.has("if 1 then 2" + times(58, " elif 3 then 4") + " end", "6:118 25:59");
+        Check.has(times(59, "{a:") + "1" + times(59, "}"), "6:1 7:59 10:59 33:59");
+        Check.has(". as " + times(59, "{a:") + "$x" + times(59, "}") + "|1",
+                "0:1 6:1 7:59 26:1 30:1 32:59 33:59");
+        Check.has(". as " + times(59, "[") + "$x" + times(59, "]") + "|1", "0:1 6:1 26:1 30:1 31:59");
     }
 
     private static void nestedPrograms() {
